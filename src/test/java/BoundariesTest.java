@@ -290,6 +290,7 @@ public final class BoundariesTest {
         words("0**", 2, "", "0", "00");
         words("0?*", 2, "", "0", "00");
         words("01&*", 4, "", "01", "10", "0101", "0110", "1001", "1010");
+        words("012.|*", 3, "", "0", "00", "12", "000", "012", "120");
         words("1*0.*", 3, "", "0", "00", "10", "000", "010", "100", "110");
         due("seven words of 0 and more to come", after("0*=AAAAAAA").next(), 1);
         due("seven words of 0", after("0*=AAAAAAA").mayStop(), true);
