@@ -240,8 +240,10 @@ public final class ProcessLog {
         return ((states >>> state) & 1L) != 0L;
     }
 
+    /** No run of calls leaves the array; the index is looked at all the same, so that none can throw. */
     private static int place(int machine, int state, int k) {
-        return machine * MOVES_OF_ONE + state * NAMES + k;
+        int index = machine * MOVES_OF_ONE + state * NAMES + k;
+        return index >= 0 && index < MOVES_OF_ALL ? index : 0;
     }
 
     private int refusalWithFewerThan(int wanted) {
@@ -299,9 +301,10 @@ public final class ProcessLog {
     /** State (a, b) of the new machine, a of x and b of y, is numbered a * (size of y) + b. */
     private void makeBoth(int x, int y) {
         copyMachine(x, SPARE);
+        int sizeOfX = sizes[SPARE];
         int sizeOfY = sizes[y];
         ends[x] = 0L;
-        for (int a = 0; a < sizes[SPARE]; a++) {
+        for (int a = 0; a < sizeOfX; a++) {
             for (int b = 0; b < sizeOfY; b++) {
                 pairMoves(x, y, a, b);
             }
@@ -309,16 +312,17 @@ public final class ProcessLog {
                 ends[x] |= ends[y] << (a * sizeOfY);
             }
         }
-        sizes[x] = sizes[SPARE] * sizeOfY;
+        sizes[x] = sizeOfX * sizeOfY;
     }
 
     private void pairMoves(int x, int y, int a, int b) {
+        int sizeOfX = sizes[SPARE];
         int sizeOfY = sizes[y];
         int row = a * sizeOfY;
         for (int k = 0; k < NAMES; k++) {
             long firstMoves = moves[place(SPARE, a, k)];
             long targets = moves[place(y, b, k)] << row;
-            for (int to = 0; to < sizes[SPARE]; to++) {
+            for (int to = 0; to < sizeOfX; to++) {
                 if (has(firstMoves, to)) {
                     targets |= 1L << (to * sizeOfY + b);
                 }
@@ -330,18 +334,20 @@ public final class ProcessLog {
     /** Puts the states of y but its start behind those of x; the doors in x move as y's start does. */
     private void appendStates(int x, int y, long doors) {
         int shift = sizes[x] - 1;
+        int sizeOfY = sizes[y];
         for (int k = 0; k < NAMES; k++) {
             long first = moves[place(y, START, k)] << shift;
             addMoves(x, doors, k, first);
-            for (int s = 1; s < sizes[y]; s++) {
+            for (int s = 1; s < sizeOfY; s++) {
                 moves[place(x, shift + s, k)] = moves[place(y, s, k)] << shift;
             }
         }
-        sizes[x] += sizes[y] - 1;
+        sizes[x] += sizeOfY - 1;
     }
 
     private void addMoves(int x, long fromStates, int k, long targets) {
-        for (int s = 0; s < sizes[x]; s++) {
+        int size = sizes[x];
+        for (int s = 0; s < size; s++) {
             if (has(fromStates, s)) {
                 moves[place(x, s, k)] |= targets;
             }
@@ -349,7 +355,8 @@ public final class ProcessLog {
     }
 
     private void clearMoves(int x) {
-        for (int s = 0; s < sizes[x]; s++) {
+        int size = sizes[x];
+        for (int s = 0; s < size; s++) {
             for (int k = 0; k < NAMES; k++) {
                 moves[place(x, s, k)] = 0L;
             }
@@ -357,9 +364,10 @@ public final class ProcessLog {
     }
 
     private void copyMachine(int from, int to) {
-        sizes[to] = sizes[from];
+        int size = sizes[from];
+        sizes[to] = size;
         ends[to] = ends[from];
-        for (int s = 0; s < sizes[from]; s++) {
+        for (int s = 0; s < size; s++) {
             for (int k = 0; k < NAMES; k++) {
                 moves[place(to, s, k)] = moves[place(from, s, k)];
             }
@@ -367,8 +375,9 @@ public final class ProcessLog {
     }
 
     private long statesAfter(long states, int k) {
+        int size = sizes[PROCESS];
         long after = 0L;
-        for (int s = 0; s < sizes[PROCESS]; s++) {
+        for (int s = 0; s < size; s++) {
             if (has(states, s)) {
                 after |= moves[place(PROCESS, s, k)];
             }
